@@ -16,6 +16,8 @@ public final class TrieVersions {
     private static final int LEAF = 0, CLASH = 1, BRANCH = 2;
     // A branch has two entries at least, so a level has at most half as many branches as entries.
     private static final int NODE_ROOM = LEVELS * (ENTRY_ROOM / 2) + ENTRY_ROOM;
+    // With all its halves it reaches over NODE_ROOM.
+    private static final int LONGEST_JUMP = 64;
     private static final long DIGEST_START = 1579L, DIGEST_FACTOR = 31L;
 
     private final Tree[] versions = new Tree[VERSION_ROOM];
@@ -514,9 +516,8 @@ public final class TrieVersions {
             if (taken == 0) {
                 made.numbers[at] = madeNodes;
                 madeNodes++;
-                taken = 1;
             }
-            at += taken;
+            at += Math.max(1, taken);
         }
     }
 
@@ -813,20 +814,13 @@ public final class TrieVersions {
         }
 
         int indexOfPlace(long place) {
-            int low = 0;
-            int high = nodes - 1;
-            while (low <= high) {
-                int middle = (low + high) / 2;
-                if (places[middle] == place) {
-                    return middle;
-                }
-                if (places[middle] < place) {
-                    low = middle + 1;
-                } else {
-                    high = middle - 1;
+            int last = NONE;
+            for (int jump = LONGEST_JUMP; jump > 0; jump /= 2) {
+                if (last + jump < nodes && places[last + jump] <= place) {
+                    last += jump;
                 }
             }
-            return NONE;
+            return last >= 0 && places[last] == place ? last : NONE;
         }
 
         /** Equal places mean the same kind and, for branches, the same level. */

@@ -63,7 +63,7 @@ public final class PromiseTests {
     }
 
     private static void fillVersions(TrieVersions x) {
-        while (x.count(0) < 20) {
+        for (int version = x.count(0); version < 20; version++) {
             x.remove(0, 0);
         }
     }
@@ -282,9 +282,11 @@ public final class PromiseTests {
         int full = filled(x, 24, 1);
         due.is("put of a 25th key", x.put(full, 24, 1), FULL);
         due.is("put of a 25th key out of range", x.put(full, 4096, 1), OUTSIDE);
-        due.is("put of one of 24 keys", x.put(full, 23, 500), full + 1);
+        due.is("put of the last of 24 keys", x.put(full, 23, 500), full + 1);
         due.is("get of it", x.get(full + 1, 23), 500);
         due.is("entries", x.about(full + 1, 0), 24);
+        due.is("put of the first of 24 keys", x.put(full, 0, 501), full + 2);
+        due.is("get of it", x.get(full + 2, 0), 501);
         fillVersions(x);
         due.is("put with 20 versions", x.put(0, 1, 1), FULL);
         due.is("put with 20 versions, wrong value", x.put(0, 1, 1000), OUTSIDE);
@@ -376,6 +378,19 @@ public final class PromiseTests {
             due.is("both(1, 1, " + how + ")", x.both(1, 1, how), 9 + how);
             due.is("about(" + (9 + how) + ", 0)", x.about(9 + how, 0), how == 2 ? 0 : 3);
         }
+        due.is("read()", map(x, "1=100;2=200;3=300"), 12);
+        due.is("both(1, 12, 0)", x.both(1, 12, 0), 13);
+        entriesAre(x, 13, 1, 1, 2, 2, 3, 3);
+        x.forget();
+        due.is("both(7, 1, 1) with the number of a version that is gone", x.both(7, 1, 1), 13);
+        entriesAre(x, 13, 1, 1);
+        due.is("both(7, 12, 2)", x.both(7, 12, 2), 14);
+        due.is("both(8, 7, 2)", x.both(8, 7, 2), 15);
+        entriesAre(x, 15, 4, 40);
+        x.forget();
+        x.forget();
+        x.forget();
+        x.forget();
         int full = filled(x, 24, 2);
         int odd = map(x, "1=5");
         int even = map(x, "2=5");
@@ -438,6 +453,10 @@ public final class PromiseTests {
         due.is("chosen(1, 999, 998)", x.chosen(1, 999, 998), 5);
         entriesAre(x, 5);
         due.is("chosen(0, 2, 1)", x.chosen(0, 2, 1), 6);
+        x.put(1, 9, 9);
+        x.forget();
+        due.is("chosen(1, 999, 20) with the number of a version that is gone", x.chosen(1, 999, 20), 7);
+        entriesAre(x, 7, 33, 20);
         fillVersions(x);
         due.is("chosen with 20 versions", x.chosen(1, 1, 0), FULL);
         due.is("chosen with 20 versions, wrong rest", x.chosen(1, 1, 1), OUTSIDE);
@@ -466,6 +485,10 @@ public final class PromiseTests {
         due.is("forget()", x.forget(), 1);
         due.is("forget() at the end", x.forget(), STATE);
         due.is("count(0)", x.count(0), 1);
+        due.is("count(2)", x.count(2), 0);
+        due.is("read() of nothing", x.read(), 1);
+        due.is("about(1, 0)", x.about(1, 0), 0);
+        due.is("about(1, 1)", x.about(1, 1), 0);
         due.is("count(2)", x.count(2), 0);
     }
 
@@ -511,7 +534,8 @@ public final class PromiseTests {
         }
         due.is("set of a 25th key", x.set(23, 0), FULL);
         due.is("set of a 25th key with a wrong value", x.set(23, 1000), OUTSIDE);
-        due.is("set of one of 24 keys", x.set(22, 5), 24);
+        due.is("set of the last of 24 keys", x.set(22, 5), 24);
+        due.is("set of the first of 24 keys", x.set(0, 0), 24);
         fillVersions(x);
         due.is("set with 20 versions", x.set(22, 6), 24);
         x.forget();
@@ -560,7 +584,16 @@ public final class PromiseTests {
         figures(x, "begin(2)", 5, 0, 0);
         x.set(33, 1);
         figures(x, "set(33, 1)", 5, 3, 3);
+        x.set(33, 2);
+        x.set(1, 3);
         due.is("get(2, 33)", x.get(2, 33), 9);
+        due.is("get(2, 1)", x.get(2, 1), 1);
+        due.is("seal()", x.seal(), 3);
+        due.is("begin(0)", x.begin(0), 0);
+        x.set(33, 4);
+        x.set(1, 4);
+        due.is("get(3, 33)", x.get(3, 33), 2);
+        due.is("get(3, 1)", x.get(3, 1), 3);
     }
 
     private static void unset() {
@@ -832,13 +865,17 @@ public final class PromiseTests {
             due.is("two(1, 4, " + what + ")", x.two(1, 4, what), nearly[what]);
             due.is("two(0, 0, " + what + ")", x.two(0, 0, what), what == 0 ? 1 : 0);
         }
+        map(x, "1=1;2=2;3=3");
+        due.is("two(1, 5, 0)", x.two(1, 5, 0), 0);
+        due.is("two(5, 1, 0)", x.two(5, 1, 0), 0);
         due.is("two(0, 1, 0)", x.two(0, 1, 0), 0);
+        due.is("two(1, 0, 0)", x.two(1, 0, 0), 0);
         due.is("two(0, 1, 4)", x.two(0, 1, 4), 4);
         for (int what : new int[] {-1, 5, LEAST, MOST}) {
             due.is("two(1, 2, " + what + ")", x.two(1, 2, what), OUTSIDE);
         }
-        due.is("two(5, 1, 9)", x.two(5, 1, 9), UNKNOWN);
-        due.is("two(1, 5, 0)", x.two(1, 5, 0), UNKNOWN);
+        due.is("two(6, 1, 9)", x.two(6, 1, 9), UNKNOWN);
+        due.is("two(1, 6, 0)", x.two(1, 6, 0), UNKNOWN);
         due.is("two(1, -1, 0)", x.two(1, -1, 0), UNKNOWN);
     }
 
