@@ -9,7 +9,7 @@ import java.util.Map;
 
 /** The sentences of the document by sections, and which of them have been quoted by a test. */
 final class Document {
-    /** What names nothing that a call could answer, or (the examples) has a test of its own elsewhere. */
+    /** What names nothing that a call could answer, or has a test of its own: the signatures, the examples. */
     private static final String PASSED_OVER = "`.*|----.*|[A-Z ]+|Examples: .*|[0-9]\\. .*|The constants:"
         + "|The constructor and the methods follow.*";
 

@@ -12,7 +12,7 @@ import java.util.stream.Stream;
  * the edge that it names. The model must answer them too, and every sentence must be quoted.
  */
 public final class EdgeTests {
-    private static final String SECTIONS = "Description|Promise [0-9]+";
+    private static final String SECTIONS = "What it is|Description|Promise [0-9]+";
     private static final int PROMISES = 26;
     private static final Due due = new Due();
 
@@ -24,7 +24,10 @@ public final class EdgeTests {
             run(edge, document);
         }
         due.part("the document");
-        due.is("sections", document.sectionsNamed(SECTIONS), PROMISES + 1);
+        due.is("sections", document.sectionsNamed(SECTIONS), PROMISES + 2);
+        // FaceTests has the public face; nothing can be tested of what is not promised.
+        due.is("other sections", document.sectionsNamed("(?!" + SECTIONS + ").*"), 2);
+        due.is("other sections that are known", document.sectionsNamed("The public face|Not promised"), 2);
         for (String passage : document.unquoted(SECTIONS)) {
             due.holds("no edge quotes: " + passage, false);
         }
